@@ -103,7 +103,7 @@ public final class CrowdedLanes {
             return BAD;
         }
         int refusal = weigh(s);
-        return refusal != 0 ? refusal : Exact.lowest(standing.weightOf(s), standing.total(), what);
+        return refusal != 0 ? refusal : Whole.lowest(standing.weightOf(s), standing.total(), what);
     }
 
     public long through(int s, int what) {
@@ -111,7 +111,7 @@ public final class CrowdedLanes {
             return FAR;
         }
         int refusal = weigh(s);
-        return refusal != 0 ? FAR + refusal : Exact.lowest(standing.passing(), standing.total(), what);
+        return refusal != 0 ? FAR + refusal : Whole.lowest(standing.passing(), standing.total(), what);
     }
 
     public int even(int s) {
@@ -150,7 +150,7 @@ public final class CrowdedLanes {
         }
         int n = lane.places();
         long ends = (long) lane.value(Lane.IN) * lane.value(Lane.OUT);
-        return Exact.lowest(ends * wording.sum(n - 1, 0), wording.sum(n, 0), what);
+        return Whole.lowest(ends * wording.sum(n - 1, 0), wording.sum(n, 0), what);
     }
 
     public long full(int i, int what) {
@@ -191,7 +191,7 @@ public final class CrowdedLanes {
         if (what == 2) {
             return speed == 0 ? 1 : 0;
         }
-        return (int) Exact.lowest(speed, 10, what);
+        return (int) Whole.lowest(speed, 10, what);
     }
 
     // ---- all at once, draws
@@ -386,7 +386,7 @@ public final class CrowdedLanes {
             return STATE;
         }
         int n = lane.places();
-        return Exact.lowest(wording.sum(n, grains), wording.sum(n, 0), what);
+        return Whole.lowest(wording.sum(n, grains), wording.sum(n, 0), what);
     }
 
     private int judgeCells(long part, int k, int f) {
@@ -891,7 +891,9 @@ public final class CrowdedLanes {
         private final Lane lane;
         private final int[] states = new int[MOST_STATES];
         private final long[] weights = new long[MOST_STATES];
-        private final long[] table = new long[(MOST_STATES - 1) * (MOST_STATES - 1)];
+        /** Row i, column j: less the rate from state i to j; on the diagonal all that goes out of i. */
+        private final long[] outflow = new long[MOST_STATES * MOST_STATES];
+        private final long[] minor = new long[(MOST_STATES - 1) * (MOST_STATES - 1)];
         private final long[] surplus = new long[Lane.MOST_STATES];
         private long weighed;
         private int size;
@@ -912,35 +914,46 @@ public final class CrowdedLanes {
                 return;
             }
             weighed = part;
-            size = 0;
-            for (int s = 0; s < Lane.MOST_STATES && size < states.length; s++) {
-                if ((part >>> s & 1) == 1) {
-                    states[size] = s;
-                    size++;
-                }
-            }
+            listStates(part);
+            fillOutflow();
             total = 0;
-            for (int i = 0; i < size && i < weights.length; i++) {
+            for (int i = 0; i < size; i++) {
                 weights[i] = treesTo(i);
                 total += weights[i];
             }
         }
 
-        /**
-         * All trees that lead to one state, by the products of their rates: the determinant of the table
-         * that has what goes out of each other state on its diagonal, and less the rates beside it.
-         */
+        private void listStates(long part) {
+            size = 0;
+            for (int s = 0; s < Lane.MOST_STATES && size < MOST_STATES; s++) {
+                if ((part >>> s & 1) == 1) {
+                    states[size] = s;
+                    size++;
+                }
+            }
+        }
+
+        private void fillOutflow() {
+            for (int i = 0; i < size; i++) {
+                for (int j = 0; j < size; j++) {
+                    int s = states[i];
+                    outflow[i * size + j] = i == j ? lane.rateOut(s) : -lane.rateBetween(s, states[j]);
+                }
+            }
+        }
+
+        /** All trees that lead to one state, by the products of their rates, are a minor of the outflow. */
         private long treesTo(int root) {
             int at = 0;
-            for (int i = 0; i < size && i < states.length; i++) {
-                for (int j = 0; j < size && j < states.length; j++) {
-                    if (i != root && j != root && at < table.length) {
-                        table[at] = i == j ? lane.rateOut(states[i]) : -lane.rateBetween(states[i], states[j]);
+            for (int i = 0; i < size; i++) {
+                for (int j = 0; j < size; j++) {
+                    if (i != root && j != root && at < minor.length) {
+                        minor[at] = outflow[i * size + j];
                         at++;
                     }
                 }
             }
-            return Exact.determinant(table, size - 1);
+            return Whole.determinant(minor, size - 1);
         }
 
         long total() {
@@ -948,7 +961,7 @@ public final class CrowdedLanes {
         }
 
         long weightOf(int s) {
-            for (int i = 0; i < size && i < states.length; i++) {
+            for (int i = 0; i < size; i++) {
                 if (states[i] == s) {
                     return weights[i];
                 }
@@ -958,7 +971,7 @@ public final class CrowdedLanes {
 
         long passing() {
             long sum = 0;
-            for (int i = 0; i < size && i < states.length; i++) {
+            for (int i = 0; i < size; i++) {
                 sum += weights[i] * lane.passing(states[i]);
             }
             return sum;
@@ -966,11 +979,9 @@ public final class CrowdedLanes {
 
         /** Whether as much goes from each state to each other one as comes back. */
         boolean agreesBothWays() {
-            for (int i = 0; i < size && i < states.length; i++) {
+            for (int i = 0; i < size; i++) {
                 for (int j = 0; j < i; j++) {
-                    long there = weights[i] * lane.rateBetween(states[i], states[j]);
-                    long back = weights[j] * lane.rateBetween(states[j], states[i]);
-                    if (there != back) {
+                    if (weights[i] * outflow[i * size + j] != weights[j] * outflow[j * size + i]) {
                         return false;
                     }
                 }
@@ -1306,7 +1317,7 @@ public final class CrowdedLanes {
                     table[i * size + j] = walksTo(stops[j]);
                 }
             }
-            return Exact.determinant(table, size);
+            return Whole.determinant(table, size);
         }
 
         /** The places of a set: the even ones and then the odd ones, or the odd ones first. */
@@ -1520,7 +1531,7 @@ public final class CrowdedLanes {
     }
 
     /** Whole numbers without loss. */
-    static final class Exact {
+    static final class Whole {
         /** Euclid's way ends within some ninety steps for every long. */
         private static final int MOST_TURNS = 100;
 
