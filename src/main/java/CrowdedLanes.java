@@ -80,10 +80,10 @@ public final class CrowdedLanes {
         switch (what) {
             case 0: return lane.rateOut(s);
             case 1: return Long.bitCount(lane.targets(s));
-            case 2: return Long.bitCount(partition.reached(s));
-            case 3: return Long.bitCount(partition.partOf(s));
-            case 4: return partition.isShut(s) ? 1 : 0;
-            case 5: return Long.numberOfTrailingZeros(partition.partOf(s));
+            case 2: return Long.bitCount(partition.ready().reached(s));
+            case 3: return Long.bitCount(partition.ready().partOf(s));
+            case 4: return partition.ready().isShut(s) ? 1 : 0;
+            case 5: return Long.numberOfTrailingZeros(partition.ready().partOf(s));
             case 6: return Integer.bitCount(s);
             default: return BAD;
         }
@@ -91,9 +91,9 @@ public final class CrowdedLanes {
 
     public int parts(int what) {
         switch (what) {
-            case 0: return partition.number(false);
-            case 1: return partition.number(true);
-            case 2: return partition.greatestShut();
+            case 0: return partition.ready().number(false);
+            case 1: return partition.ready().number(true);
+            case 2: return partition.ready().greatestShut();
             default: return BAD;
         }
     }
@@ -337,7 +337,7 @@ public final class CrowdedLanes {
         if (!this.lane.isState(s) || !Sheets.isSheet(k) || !Sheets.isKind(lane)) {
             return BAD;
         }
-        if (!partition.isShut(s)) {
+        if (!partition.ready().isShut(s)) {
             return NONE;
         }
         if (sheets.isNothing(k)) {
@@ -370,7 +370,7 @@ public final class CrowdedLanes {
 
     /** Has the weights of the part of s at hand: 0, or why there are none. */
     private int weigh(int s) {
-        if (!partition.isShut(s)) {
+        if (!partition.ready().isShut(s)) {
             return NONE;
         }
         long part = partition.partOf(s);
@@ -794,14 +794,22 @@ public final class CrowdedLanes {
             found = false;
         }
 
+        /** These parts, found if need be: whatever is asked of them is asked behind this. */
+        Parts ready() {
+            if (!found) {
+                found = true;
+                findReach();
+                findParts();
+            }
+            return this;
+        }
+
         /** All states that s reaches, as bits. */
         long reached(int s) {
-            find();
             return s >= 0 && s < reach.length ? reach[s] : 0;
         }
 
         long partOf(int s) {
-            find();
             return s >= 0 && s < part.length ? part[s] : 0;
         }
 
@@ -832,14 +840,6 @@ public final class CrowdedLanes {
 
         private boolean isLeast(int s) {
             return Long.numberOfTrailingZeros(partOf(s)) == s;
-        }
-
-        private void find() {
-            if (!found) {
-                found = true;
-                findReach();
-                findParts();
-            }
         }
 
         private void findReach() {
@@ -1555,43 +1555,24 @@ public final class CrowdedLanes {
             return one;
         }
 
-        /** The determinant of a table that is used up; each division here leaves nothing over. */
+        /**
+         * The determinant of a table that is used up; each division here leaves nothing over. Tables of trees
+         * and of ways have no minor at their upper left that is 0, unless the determinant is 0 too: so no rows
+         * have to be changed for a head that is not 0.
+         */
         static long determinant(long[] table, int size) {
             if (size < 0 || size * size > table.length) {
                 return 0;
             }
             long before = 1;
-            boolean turned = false;
             for (int k = 0; k < size; k++) {
-                int row = rowWithHead(table, size, k);
-                if (row < 0) {
-                    return 0;
-                }
-                if (row != k) {
-                    swapRows(table, size, k, row);
-                    turned = !turned;
-                }
                 clearBelow(table, size, k, before);
                 before = table[k * size + k];
-            }
-            return turned ? -before : before;
-        }
-
-        private static int rowWithHead(long[] table, int size, int k) {
-            for (int i = k; i < size; i++) {
-                if (table[i * size + k] != 0) {
-                    return i;
+                if (before == 0) {
+                    return 0;
                 }
             }
-            return -1;
-        }
-
-        private static void swapRows(long[] table, int size, int one, int other) {
-            for (int j = 0; j < size; j++) {
-                long kept = table[one * size + j];
-                table[one * size + j] = table[other * size + j];
-                table[other * size + j] = kept;
-            }
+            return before;
         }
 
         private static void clearBelow(long[] table, int size, int k, long before) {

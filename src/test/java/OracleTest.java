@@ -246,12 +246,17 @@ public final class OracleTest {
             if (Integer.bitCount(from) > 4) {
                 continue;
             }
-            int m = from % 9;
-            Map<Integer, Long> due = Oracle.waysFrom(from, m);
-            for (int to = 1; to < 4096; to++) {
-                if (Integer.bitCount(to) == Integer.bitCount(from)) {
-                    CHECK.due("ways " + from + " " + to + " " + m, x.ways(from, to, m), due.getOrDefault(to, 0L));
-                }
+            for (int m = 0; m <= 8; m++) {
+                walkersFrom(x, from, m);
+            }
+        }
+    }
+
+    private static void walkersFrom(CrowdedLanes x, int from, int m) {
+        Map<Integer, Long> due = Oracle.waysFrom(from, m);
+        for (int to = 1; to < 4096; to++) {
+            if (Integer.bitCount(to) == Integer.bitCount(from)) {
+                CHECK.due("ways", x.ways(from, to, m), due.getOrDefault(to, 0L));
             }
         }
     }

@@ -166,6 +166,12 @@ public final class PromisesTest {
         refused("aring 4;", 0, 1);
         refused("hopin 1 1;", 0, 1);
         refused("o", 0, 1);
+        refused("hopz 1 1;", 0, 1);
+        refused("hopa 1 1;", 0, 1);
+        refused("hop{1 1;", 3, 1);
+        refused("hop`1 1;", 3, 1);
+        refused("hop 1/1;", 5, 1);
+        refused("hop 1:1;", 5, 1);
         refused("hop x", 4, 1);
         refused("hop 1 2 x", 8, 1);
         refused("hop 123 1;", 4, 1);
