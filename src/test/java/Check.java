@@ -1,20 +1,37 @@
 import java.util.Arrays;
+import java.util.function.IntToLongFunction;
 
 /** Counts answers that are not as due, and tells texts to objects. */
 final class Check {
     private final String name;
+    private String sentence = "";
     private int asked;
+    private int askedBefore;
     private int wrong;
 
     Check(String name) {
         this.name = name;
     }
 
+    /** What is asked from here on is about this sentence of the document; the one before must have been asked about. */
+    void says(String words) {
+        if (!sentence.isEmpty() && asked == askedBefore) {
+            wrong++;
+            System.out.println(name + ": nothing was asked about \"" + sentence + "\"");
+        }
+        askedBefore = asked;
+        sentence = words;
+    }
+
+    private String about() {
+        return sentence.isEmpty() ? name : name + ": \"" + sentence + "\"";
+    }
+
     void due(String call, long got, long want) {
         asked++;
         if (got != want) {
             wrong++;
-            System.out.println(name + ": " + call + " answered " + got + ", due is " + want);
+            System.out.println(about() + ": " + call + " answered " + got + ", due is " + want);
         }
     }
 
@@ -22,8 +39,24 @@ final class Check {
         asked++;
         if (!so) {
             wrong++;
-            System.out.println(name + ": does not hold: " + what);
+            System.out.println(about() + ": does not hold: " + what);
         }
+    }
+
+    /** A number of a call has bounds: at both of them it is taken, beyond them it is refused. */
+    void bounds(String number, int least, int most, long refusal, IntToLongFunction call) {
+        for (int v : new int[] {least, most}) {
+            holds(number + " " + v + " is taken", call.applyAsLong(v) != refusal);
+        }
+        for (int v : new int[] {least - 1, most + 1, Integer.MIN_VALUE, Integer.MAX_VALUE}) {
+            due(number + " " + v, call.applyAsLong(v), refusal);
+        }
+    }
+
+    /** Both parts of a fraction. */
+    void fraction(String what, IntToLongFunction part, long over, long under) {
+        due(what + " numerator", part.applyAsLong(0), over);
+        due(what + " denominator", part.applyAsLong(1), under);
     }
 
     boolean failed() {
@@ -31,6 +64,7 @@ final class Check {
     }
 
     void close() {
+        says("");
         System.out.println(name + ": " + asked + " answers, " + wrong + " not as due");
         if (wrong != 0 || asked == 0) {
             System.exit(1);
