@@ -259,6 +259,10 @@ public final class BoundariesTest {
             due("drained, shut " + n, drain.parts(1), 1);
             due("drained, greatest " + n, drain.parts(2), 1);
         }
+        CrowdedLanes less = Check.lane("open 6;");
+        due("64 states are one part", less.parts(0) * 100 + less.parts(2), 164);
+        Check.tell(less, "ring 2;");
+        due("of 4 states, none of those before", less.parts(0) * 100 + less.parts(1) * 10 + less.parts(2), 332);
         // those of 3 grains are more, but they leak
         CrowdedLanes leak = Check.lane("open 6;hop 1 1;in 0 0;out 0 1;");
         due("the greatest is not shut", leak.parts(2), 1);
