@@ -111,7 +111,7 @@ public final class CrowdedLanes {
             return FAR;
         }
         int refusal = weigh(s);
-        return refusal != 0 ? FAR + refusal : Whole.lowest(standing.passing(), standing.total(), what);
+        return refusal != 0 ? FAR + refusal : Whole.lowest(standing.passingAtRest(), standing.total(), what);
     }
 
     public int even(int s) {
@@ -969,7 +969,7 @@ public final class CrowdedLanes {
             return 0;
         }
 
-        long passing() {
+        long passingAtRest() {
             long sum = 0;
             for (int i = 0; i < size; i++) {
                 sum += weights[i] * lane.passing(states[i]);

@@ -1,6 +1,10 @@
 import java.io.IOException;
 import java.nio.file.Files;
 import java.nio.file.Path;
+import java.util.ArrayList;
+import java.util.LinkedHashMap;
+import java.util.List;
+import java.util.Map;
 import java.util.regex.Matcher;
 import java.util.regex.Pattern;
 
@@ -26,6 +30,7 @@ public final class LanguageTest {
         }
         methodsAreShort(code);
         rowsAreMadeOnce(code);
+        callsAreShallow(code);
         CHECK.close();
     }
 
@@ -79,5 +84,57 @@ public final class LanguageTest {
             CHECK.holds("nothing is made in a call, at line " + line(code, m.start()),
                     field || m.start() > face && m.start() < faceEnd);
         }
+    }
+
+    private static final int DEEPEST = 8;
+    private static final Pattern CALL = Pattern.compile("(\\.)?\\b(\\w+)\\(");
+
+    /** Each method, by its class and name, with what its body calls; nothing may call itself, by others or not. */
+    private static void callsAreShallow(String code) {
+        Map<String, String> bodies = new LinkedHashMap<>();
+        Matcher m = METHOD.matcher(code);
+        while (m.find()) {
+            String key = classAround(code, m.start()) + "." + m.group().replaceAll("(?s)\\(.*", "").replaceAll("(?s).*\\W", "");
+            bodies.merge(key, code.substring(m.end(), closing(code, m.end())), String::concat);
+        }
+        CHECK.holds("methods were found", bodies.size() > 100);
+        int deepest = 0;
+        for (String key : bodies.keySet()) {
+            int depth = depth(key, bodies, new ArrayList<>());
+            CHECK.holds("calls from " + key + " are " + depth + " deep", depth <= DEEPEST);
+            deepest = Math.max(deepest, depth);
+        }
+        CHECK.holds("calls were followed", deepest > 5);
+    }
+
+    private static String classAround(String code, int at) {
+        Matcher m = Pattern.compile("\\bclass (\\w+)").matcher(code.substring(0, at));
+        String name = "";
+        while (m.find()) {
+            name = m.group(1);
+        }
+        return name;
+    }
+
+    /** A call behind a dot may be of any class that has such a method; any other is of the same class. */
+    private static int depth(String key, Map<String, String> bodies, List<String> open) {
+        if (open.contains(key)) {
+            CHECK.holds("no method calls itself: " + open + " and then " + key, false);
+            return 0;
+        }
+        open.add(key);
+        int deepest = 0;
+        Matcher m = CALL.matcher(bodies.get(key));
+        while (m.find()) {
+            String own = key.substring(0, key.indexOf('.') + 1) + m.group(2);
+            for (String other : bodies.keySet()) {
+                boolean called = m.group(1) == null ? other.equals(own) : other.endsWith("." + m.group(2));
+                if (called) {
+                    deepest = Math.max(deepest, depth(other, bodies, open));
+                }
+            }
+        }
+        open.remove(open.size() - 1);
+        return deepest + 1;
     }
 }
